@@ -853,7 +853,11 @@ public final class MotionDesk {
                 if (sign == END) {
                     return items;
                 }
-                if (!readItem(items) || !takes(';')) {
+                if (!readItem(items)) {
+                    return -1;
+                }
+                take();
+                if (sign != ';') {
                     return -1;
                 }
             }
@@ -874,7 +878,8 @@ public final class MotionDesk {
         }
 
         private boolean readMotions() {
-            if (!takes(NUMBER) || number < LEAST_MOTIONS || number > MOST_MOTIONS) {
+            take();
+            if (sign != NUMBER || number < LEAST_MOTIONS || number > MOST_MOTIONS) {
                 return false;
             }
             told.motions = number;
@@ -911,18 +916,18 @@ public final class MotionDesk {
                 return false;
             }
             told.addNode(VOTE);
-            return readBranch() && readBranch() && takes(')');
+            if (!readBranch() || !readBranch()) {
+                return false;
+            }
+            take();
+            return sign == ')';
         }
 
         private int motionOfSign() {
             return within(sign - 'a', told.motions) ? sign - 'a' : NONE;
         }
 
-        private boolean takes(int due) {
-            take();
-            return sign == due;
-        }
-
+        /** Goes on to the next token. */
         private void take() {
             while (at < length && letters[at] == ' ') {
                 at++;
