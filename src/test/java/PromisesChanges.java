@@ -62,6 +62,7 @@ public final class PromisesChanges {
         due("now(5)", desk.now(5), 1);
         due("swaps(0) again", desk.swaps(0), 0);
         dueLeaves(desk, -9, 0, 1);
+        due("swaps(0), the outcome of the second branch", Check.told("rabc;g(a(bc));").swaps(0), 0);
         due("swaps(0) of a leaf alone", Check.told("ga;").swaps(0), MotionDesk.STATE);
     }
 
@@ -146,11 +147,12 @@ public final class PromisesChanges {
         }
         dueRanking(desk, 0, 0, 1, 2);
         due("undo()", desk.undo(), 9);
-        dueRanking(desk, 0, 0, 2, 1);
+        int[][] past = {{0, 1, 2}, {1, 0, 2}, {1, 2, 0}, {2, 1, 0}, {2, 0, 1}, {0, 2, 1}};
+        dueRanking(desk, 0, past[5]);
         for (int left = 8; left >= 0; left--) {
             due("undo()", desk.undo(), left);
+            dueRanking(desk, 0, past[(left + 2) % 6]);
         }
-        dueRanking(desk, 0, 1, 2, 0);
         due("undo(), older ones are lost", desk.undo(), MotionDesk.STATE);
         dueRanking(desk, 0, 1, 2, 0);
     }

@@ -33,9 +33,11 @@ public final class PromisesDesk {
         int[] leaves = {MotionDesk.NONE, MotionDesk.NONE, 0, 2, MotionDesk.NONE, 1, 2};
         for (int k = 0; k < leaves.length; k++) {
             due("new: node(" + k + ", 0)", desk.node(k, 0), leaves[k]);
+            due("new: node(" + k + ", 6)", desk.node(k, 6), 0);
         }
         due("new: now(0)", desk.now(0), 7);
         due("new: now(5)", desk.now(5), 0);
+        due("new: votes(0, 1)", desk.votes(0, 1), 0);
         due("new: ranking(0, 0)", desk.ranking(0, 0), MotionDesk.BAD);
         due("new: undo()", desk.undo(), MotionDesk.STATE);
         due("new: back(0)", desk.back(0), MotionDesk.STATE);
@@ -76,6 +78,10 @@ public final class PromisesDesk {
         }
         due("clear(), full", desk.clear(), 120);
         due("type behind clear()", desk.type('r'), 1);
+        MotionDesk typed = new MotionDesk();
+        Check.tell(typed, "n22;");
+        typed.clear();
+        due("desk(): letters that were cleared are gone", Check.tell(typed, "n2"), -12);
     }
 
     private static void told(String text, int items, int motions, int members, int nodes) {
@@ -90,6 +96,8 @@ public final class PromisesDesk {
     private static void deskTexts() {
         told("", 0, 3, 0, 7);
         told("    ", 0, 3, 0, 7);
+        told(" ".repeat(120), 0, 3, 0, 7);
+        told(" ".repeat(117) + "n4;", 1, 4, 0, 15);
         told("n2;", 1, 2, 0, 3);
         told("n3;", 1, 3, 0, 7);
         told("n4;", 1, 4, 0, 15);
@@ -114,6 +122,8 @@ public final class PromisesDesk {
         for (String text : texts) {
             fault(text, text.length());
         }
+        fault("n" + "9".repeat(119), 1);
+        fault("n2" + " ".repeat(118), 120);
         fault("n0;", 1);
         fault("n1;", 1);
         fault("n7;", 1);
@@ -294,6 +304,13 @@ public final class PromisesDesk {
         tops("n4;rabcd;rbcda;rcdab;", 15, MotionDesk.NONE);
         tops("n6;rafbcde;rfbacde;rbafcde;", 2 | 1 | 32, MotionDesk.NONE);
         tops("rabc;rabc;rcba;gc;", 1, 0);
+        MotionDesk second = Check.told("rcab;rcba;rabc;g((ab)c);");
+        due("now(3), the second branch", second.now(3), 2);
+        due("now(4), the second branch", second.now(4), 2);
+        MotionDesk six = Check.told("n6;rfabcde;rfbcdea;rabcdef;");
+        due("now(3) of 63 nodes", six.now(3), 5);
+        due("now(4) of 63 nodes", six.now(4), 5);
+        due("node(62, 5) of 63 nodes", six.node(62, 5), 5);
         MotionDesk desk = Check.told(RING);
         due("now(0)", desk.now(0), 5);
         due("now(3)", desk.now(3), 0);

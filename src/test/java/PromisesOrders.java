@@ -121,6 +121,13 @@ public final class PromisesOrders {
         dueWon(new MotionDesk(), 0, 0, 0, 0);
         dueWon(new MotionDesk(), 1, 0, MotionDesk.NONE, MotionDesk.NONE);
         dueWon(Check.told("n2;rba;rba;rba;rba;rba;rba;rba;rba;rba;"), 0, 1, 5, 31);
+        MotionDesk four = Check.told("n4;rabcd;rabdc;rbacd;g((ad)(bc));");
+        dueWon(four, 3, 0, 2, 3);
+        dueWon(four, 2, 0, 2, 3);
+        dueWon(four, 1, 1, 1, 1);
+        dueWon(Check.told("n4;racdb;radcb;racbd;g(((ba)(ad))c);"), 1, 1, 2, 3);
+        dueWon(Check.told("n4;rcbda;rcdab;g(((ad)(bc))b);"), 0, 1, 1, 1);
+        dueWon(Check.told("n6;rabcdef;rabcdef;rabcdef;rabcdef;rabcdef;rabcdef;rabcdef;rabcdef;rabcdef;"), 5, 1, 5, 31);
         int[][] wrong = {{-1, 0, 0}, {3, 0, 0}, {0, -1, 0}, {0, 2, 0}, {0, 0, -1}, {0, 0, 2}};
         for (int[] three : wrong) {
             due("won, wrong", desk.won(three[0], three[1], three[2]), MotionDesk.BAD);

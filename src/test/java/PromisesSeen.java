@@ -104,6 +104,12 @@ public final class PromisesSeen {
         due("watch(): one can be", desk.watch(), MotionDesk.NONE);
         desk.sees(1, 1);
         due("watch(): none can be", desk.watch(), MotionDesk.NONE);
+        due("watch(), as many of each: the root", new MotionDesk().watch(), 0);
+        MotionDesk six = Check.told("n6;");
+        due("watch() of 63 nodes", six.watch(), 0);
+        six.sees(0, 1);
+        due("rankings(0): b above a", six.rankings(0), 360);
+        due("watch(), b above a: e or f, 180 of 360", six.watch(), 7);
         due("watch(), no votes", Check.told("ga;").watch(), MotionDesk.NONE);
         due("watch(), the lowest of several", Check.told("g((ab)(ab));").watch(), 1);
         due("watch(), the root", Check.told("g((aa)(bb));").watch(), 0);
