@@ -245,7 +245,11 @@ public final class MotionDesk {
         changed.copy(ballots);
         for (int k = 0; k < orders(); k++) {
             layOrder(k, standing.motions, row);
-            changed.cast(tree, row, 0, standing.motions, 1 << member);
+            if (way == SINCERE) {
+                changed.castSincere(tree, row, 0, standing.motions, 1 << member);
+            } else {
+                changed.castAbove(row, 0, standing.motions, 1 << member);
+            }
             int place = standing.placeOf(member, changed.outcome(tree, way, everyone()));
             if (place < asItIs) {
                 many++;
@@ -728,6 +732,11 @@ public final class MotionDesk {
 
         /** A member (its bit) votes by the ranking that begins there, and no more as it did. */
         private void cast(Tree tree, int[] ranked, int from, int motions, int member) {
+            castSincere(tree, ranked, from, motions, member);
+            castAbove(ranked, from, motions, member);
+        }
+
+        private void castSincere(Tree tree, int[] ranked, int from, int motions, int member) {
             for (int k = 0; k < tree.nodes; k++) {
                 if (tree.isVote(k) && tree.votesFirst(k, ranked, from, motions)) {
                     forFirst[k] |= member;
@@ -735,6 +744,9 @@ public final class MotionDesk {
                     forFirst[k] &= ~member;
                 }
             }
+        }
+
+        private void castAbove(int[] ranked, int from, int motions, int member) {
             for (int place = 0; place < motions; place++) {
                 for (int later = place + 1; later < motions; later++) {
                     int higher = ranked[from + place];
