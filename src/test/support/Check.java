@@ -1,3 +1,6 @@
+import java.util.function.IntUnaryOperator;
+import java.util.function.ToIntFunction;
+
 /** Prints every answer that is not the one that is due, and ends with exit code 1 if there was one. */
 final class Check {
     private static final int MOST_PRINTED = 50;
@@ -20,6 +23,23 @@ final class Check {
         }
     }
 
+    /** The last numbers that an argument may be, and the first that are refused, on both sides. */
+    void range(String call, int least, int most, IntUnaryOperator by) {
+        for (int taken : new int[] {least, most}) {
+            due(call + ", " + taken + " is taken (1)", by.applyAsInt(taken) == MotionDesk.BAD ? 0 : 1, 1);
+        }
+        for (int refused : new int[] {least - 1, most + 1, Integer.MIN_VALUE, Integer.MAX_VALUE}) {
+            due(call + ", " + refused + " is refused", by.applyAsInt(refused), MotionDesk.BAD);
+        }
+    }
+
+    /** A call on such a desk answers that, and the desk is then as one that had no such call. */
+    void changesNothing(Desks desks, String name, int want, ToIntFunction<MotionDesk> call) {
+        MotionDesk desk = desks.make();
+        due(desks + ": " + name, call.applyAsInt(desk), want);
+        new Look(desk).dueAs(new Look(desks.make()), this, desks + ": " + name);
+    }
+
     int wrong() {
         return wrong;
     }
@@ -31,11 +51,15 @@ final class Check {
         }
     }
 
-    /** The text is typed and read; what desk() answers. */
-    static int tell(MotionDesk desk, String text) {
+    static void type(MotionDesk desk, String text) {
         for (int i = 0; i < text.length(); i++) {
             desk.type(text.charAt(i));
         }
+    }
+
+    /** The text is typed and read; what desk() answers. */
+    static int tell(MotionDesk desk, String text) {
+        type(desk, text);
         return desk.desk();
     }
 
