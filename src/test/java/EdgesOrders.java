@@ -257,8 +257,19 @@ public final class EdgesOrders {
         }
     }
 
-    /** "must put it first (all else of them as it is)": what they think of the others counts, too. */
+    /**
+     * "must put it first (all else of them as it is)": what they think of the others counts, too. Each of
+     * these would come out otherwise if the others stood by their numbers, backwards, as another member
+     * ranks them, or if the motion and the one that was the best changed places.
+     */
     private static void wonAllElseAsItIs() {
+        dueWon(Check.told("racb;rbca;rbac;rabc;g((bc)(ca));"), 2, 0, 2, 6);
+        dueWon(Check.told("rabc;rcab;g((cb)(ab));"), 1, 0, 1, 2);
+        dueWon(Check.told("rbca;racb;rbac;rbac;g((ac)(bc));"), 2, 0, 2, 5);
+        dueWon(Check.told("n4;rabdc;rbdac;rbacd;radcb;g(((bd)(bd))((cd)(aa)));"), 3, 0, 2, 3);
+        dueWon(Check.told("n4;rcbad;racbd;rbdac;g(((bd)(ca))((da)c));"), 3, 1, 2, 3);
+        dueWon(Check.told("rabc;rcab;rcab;g((ac)b);"), 1, 1, 1, 2);
+        dueWon(Check.told("rbca;racb;rbac;rbac;g((ab)c);"), 2, 1, 2, 5);
         dueWon(Check.told("n4;racdb;radcb;racbd;g(((ba)(ad))c);"), 1, 1, 2, 3);
         dueWon(Check.told("n4;rcbda;rcdab;g(((ad)(bc))b);"), 0, 1, 1, 1);
     }

@@ -20,6 +20,7 @@ public final class EdgesSeen {
         watchNoVotes();
         watchTheLowestOfSeveral();
         watchTheGreaterPart();
+        watchEachRankingOnce();
         watchTheLastVote();
         seenIsGoneBehindDesk();
         CHECK.end();
@@ -234,6 +235,25 @@ public final class EdgesSeen {
         MotionDesk desk = Check.told("g((ab)c);");
         desk.sees(1, 0);
         due("of 3: 1 for c; 0 for b", desk.watch(), 0);
+    }
+
+    /** "the greater part of these": each that can be, the first and the last of all, too, counts once. */
+    private static void watchEachRankingOnce() {
+        due("3 of 6, not 4, g((ca)b)", Check.told("g((ca)b);").watch(), 1);
+        due("3 of 6, not 4, g((cb)a)", Check.told("g((cb)a);").watch(), 1);
+        due("3 of 6, not 4, g(c(ab))", Check.told("g(c(ab));").watch(), 2);
+        MotionDesk four = Check.told("n4;g(((bb)c)((bd)(da)));");
+        four.sees(0, 1);
+        due("the last vote", four.watch(), 10);
+        MotionDesk first = Check.told("g(a(cb));");
+        first.sees(0, 0);
+        due("the first of all, and another one", first.watch(), 2);
+        MotionDesk last = Check.told("g((ab)c);");
+        last.sees(0, 1);
+        due("the last of all, and another one", last.watch(), 1);
+        MotionDesk even = Check.told("g((bc)(ab));");
+        even.sees(1, 0);
+        due("of several the lowest", even.watch(), 0);
     }
 
     /** The last vote that may be. */
