@@ -15,6 +15,7 @@ public final class EdgesDesk {
         sincereASetThatEndsIsLikedLess();
         sincereOfLikeSetsTheFirst();
         sincereAsManyTheFirst();
+        foreseenByOutcomesOfBothBranches();
         foreseenOfLikeOnesTheFirst();
         noMembers();
         ranking();
@@ -154,6 +155,18 @@ public final class EdgesDesk {
         due("4 of 9 for the first", Check.told("n2;" + "rab;rba;".repeat(4) + "rab;g(ba);").now(3), 0);
         due("5 of 9 for the first", Check.told("n2;" + "rab;rba;".repeat(4) + "rba;g(ba);").now(3), 1);
         due("0 of 0, (ba)", Check.told("n2;g(ba);").now(3), 1);
+    }
+
+    /** "of a VOTE what comes of that branch whose outcome BEATS the other's": FORESEEN all the way down. */
+    private static void foreseenByOutcomesOfBothBranches() {
+        due("of (ca) comes a, not c as SINCERE", Check.told("rabc;rbca;g((ca)b);").now(4), 0);
+        due("of (ba) comes a, not b as SINCERE", Check.told("rbac;racb;g(c(ba));").now(4), 0);
+        MotionDesk ring = Check.told("n4;rabcd;rbcad;rcabd;g((ab)((ca)(bd)));");
+        due("(ab)", ring.node(1, 5), 0);
+        due("(ca)", ring.node(5, 5), 2);
+        due("(bd)", ring.node(8, 5), 1);
+        due("((ca)(bd)): b beats c", ring.node(4, 5), 1);
+        due("a beats b", ring.node(0, 5), 0);
     }
 
     /** "what comes of that branch whose outcome BEATS the other's (of like ones the first)". */

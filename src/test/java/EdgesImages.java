@@ -79,6 +79,11 @@ public final class EdgesImages {
         due("back(0)", desk.back(0), 5);
         due("ranking(0, 1)", desk.ranking(0, 1), 2);
         due("node(1, 0)", desk.node(1, 0), 2);
+        MotionDesk full = Desks.FULL.make();
+        full.keep(0);
+        due("now(5) behind keep(0), full", full.now(5), 10);
+        due("count(3) behind keep(0), full", full.count(3), 6);
+        due("count(4) behind keep(0), full", full.count(4), 120);
     }
 
     // ---- promise 23

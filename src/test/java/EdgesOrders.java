@@ -18,6 +18,7 @@ public final class EdgesOrders {
         better();
         betterOfNoMember();
         betterNone();
+        betterTheBestOfSeveral();
         betterItsOwnCounts();
         betterByItsOwnRanking();
         won();
@@ -175,6 +176,12 @@ public final class EdgesOrders {
             dueBetter(Check.told("rcba;gb;"), 0, way, 0, 1, 0);
             dueBetter(Check.told("n2;rba;rab;rab;"), 0, way, 0, 0, 0);
         }
+    }
+
+    /** "the best OUTCOME that it reaches by any": not the first that is better, and by which it reaches the best. */
+    private static void betterTheBestOfSeveral() {
+        dueBetter(Check.told("n4;racbd;rcdba;g(d(b(ac)));"), 1, 0, 12, 3, 18);
+        dueBetter(Check.told("n4;rcdba;rdbca;g((db)(ac));"), 1, 1, 9, 3, 18);
     }
 
     /** "(its own counts for the latter two)": of two motions its own alone reaches the best. */
